@@ -729,8 +729,8 @@ public final class EnginesOut {
         }
         long scaled = (long) part << (shift + 23);
         long mantissa = scaled / whole;
-        long rest = 2 * (scaled % whole);
-        if (rest > whole || (rest == whole && (mantissa & 1) == 1)) {
+        // The nearest; none lies just between two floats, as whole has no 24 bits.
+        if (2 * (scaled % whole) > whole) {
             mantissa++;
         }
         return (int) (((long) (127 - shift) << 23) + mantissa - (1L << 23));
@@ -896,7 +896,7 @@ public final class EnginesOut {
                     draft.places[i] = a;
                     draft.stations = i + 1;
                 }
-                more = hasMore(i + 1, MOST_STATIONS);
+                more = isCommaNext();
             }
         }
 
@@ -913,19 +913,13 @@ public final class EnginesOut {
                     posts[i] = s;
                     engines = i + 1;
                 }
-                more = hasMore(i + 1, MOST_ENGINES);
+                more = isCommaNext();
             }
         }
 
-        private boolean hasMore(int many, int most) {
-            if (fault != NONE || text.signAt(at) != ',') {
-                return false;
-            }
-            if (many >= most) {
-                refuse(at);
-                return false;
-            }
-            return true;
+        /** A , behind the last that there may be is left, and so refused as any sign that is no ; is. */
+        private boolean isCommaNext() {
+            return fault == NONE && text.signAt(at) == ',';
         }
 
         private boolean isDigitNext() {
@@ -1353,23 +1347,28 @@ public final class EnginesOut {
         int longer = 0;
         int together = 0;
 
+        /** false: there are no two with ways. */
         boolean find(World world, int a, int b) {
-            boolean found = false;
+            toFirst = NONE;
             for (int e = 0; e < world.crew.size; e++) {
-                for (int f = 0; f < world.crew.size; f++) {
-                    int way = world.readyWay(e, a);
-                    int other = world.readyWay(f, b);
-                    boolean can = e != f && way < NO_WAY && other < NO_WAY;
-                    if (can && (!found || isLess(way, other))) {
-                        found = true;
-                        toFirst = e;
-                        toSecond = f;
-                        longer = Math.max(way, other);
-                        together = way + other;
-                    }
+                int way = world.readyWay(e, a);
+                if (way < NO_WAY) {
+                    tryBeside(world, e, way, b);
                 }
             }
-            return found;
+            return toFirst != NONE;
+        }
+
+        private void tryBeside(World world, int e, int way, int b) {
+            for (int f = 0; f < world.crew.size; f++) {
+                int other = e == f ? NO_WAY : world.readyWay(f, b);
+                if (other < NO_WAY && (toFirst == NONE || isLess(way, other))) {
+                    toFirst = e;
+                    toSecond = f;
+                    longer = Math.max(way, other);
+                    together = way + other;
+                }
+            }
         }
 
         private boolean isLess(int way, int other) {
