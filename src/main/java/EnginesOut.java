@@ -769,7 +769,7 @@ public final class EnginesOut {
     /** The ROW. */
     private static final class Row {
         /** The longest is that of moves(): MINUTES, and two numbers for each ENGINE. */
-        static final int MOST = 1 + 2 * MOST_ENGINES;
+        private static final int MOST = 1 + 2 * MOST_ENGINES;
 
         final long[] numbers = new long[MOST];
         int size = 0;
