@@ -34,6 +34,10 @@ final class Checks {
         return wrong == 0;
     }
 
+    static int wrong() {
+        return wrong;
+    }
+
     /** The ROW as a text, its numbers with blanks between. */
     static String row(EnginesOut x) {
         StringBuilder is = new StringBuilder();
